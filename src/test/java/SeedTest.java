@@ -79,9 +79,11 @@ public final class SeedTest {
     private static void nothingSurvives() {
         for (long before : Due.VALUES) {
             for (int lifts = 0; lifts <= Due.LIFTS_TO_64 + 2; lifts++) {
-                MontInverse used = Due.lifted(before, lifts);
-                used.seed(10L);
-                Due.sameFromHere("seed(10) after " + lifts + " lifts of " + before, used, Due.seeded(10L));
+                for (long v : Due.VALUES) {
+                    MontInverse used = Due.lifted(before, lifts);
+                    used.seed(v);
+                    Due.sameFromHere("seed(" + v + ") after " + lifts + " lifts of " + before, used, Due.seeded(v));
+                }
             }
         }
     }
